@@ -224,7 +224,6 @@ public final class Clickbook {
             throw new IllegalStateException("a SESSION is open");
         }
         this.band = band;
-        time = 0;
         return takes.size();
     }
 

@@ -298,6 +298,13 @@ final class AskedTest {
         book.shift(1, 0);
         book.shift(0, 0);
         sameMany("18: at 0", book, 0, 2365, 2, 4, 2, 1, 2, 3, 1, 1, 0);
+        book.shift(0, 2365);
+        book.shift(2, 2364);
+        sameMany("18: two RUN OVER", book, 6, 3, 2, 1, 1);
+        Clickbook first = new Clickbook();
+        first.theme(1);
+        first.cue(0, 0, 1, 0, 0);
+        sameMany("18: the first one SPOILS", first, 6, 1, 0, 1, 0);
         check.refused("18: what -1", Check.ARGUMENT, book, b -> b.many(-1));
         check.refused("18: what 16", Check.ARGUMENT, book, b -> b.many(16));
         check.refused("18: least what", Check.ARGUMENT, book, b -> b.many(Integer.MIN_VALUE));

@@ -48,9 +48,18 @@ final class Check {
             call.on(book);
         } catch (RuntimeException e) {
             got = e.getClass().getName();
+            isTrue(what + " (thrown by the class itself, not by the machine)", isOwnThrow(e));
         }
         sameText(what + " (thrown)", got, due.getName());
         sameText(what + " (state behind it)", stateOf(book), before);
+    }
+
+    /** The machine's and the library's own exceptions come from deeper down than the class, or with a text of theirs. */
+    static boolean isOwnThrow(RuntimeException e) {
+        StackTraceElement[] trace = e.getStackTrace();
+        String text = e.getMessage();
+        boolean fromClass = trace.length > 0 && trace[0].getClassName().startsWith("Clickbook");
+        return fromClass && text != null && !text.startsWith("Index ") && !text.startsWith("Cannot ");
     }
 
     /** The call has to answer that, and to leave everything that can be asked as it was. */

@@ -32,6 +32,7 @@ final class StudioTest {
         check.same("9: TAKES so far", book.open(1), 2);
         check.same("9: the band then", book.many(12), 1);
         check.same("9: TIME starts anew", book.many(13), 0);
+        check.refused("9: one with a band of 1 is open", Check.STATE, book, b -> b.open(1));
     }
 
     private static void take() {

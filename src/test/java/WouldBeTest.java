@@ -169,6 +169,8 @@ final class WouldBeTest {
     private static void bestStart() {
         bestStartOf("without HITS", 100);
         bestStartOf("met as it is", 100, 100);
+        bestStartOf("1 ahead", 99, 99);
+        bestStartOf("1 behind", 101, 101);
         bestStartOf("24 behind", 124, 164);
         bestStartOf("25 behind", 100, 165);
         bestStartOf("24 ahead", 76, 76);
@@ -456,5 +458,19 @@ final class WouldBeTest {
         book.change(45, -7);
         check.same("25: behind a CHANGE", book.digest(), digestOf(book));
         check.isTrue("25: another one then", book.digest() != before);
+        // the HITS are MET as just 24 FRAMES, neither more nor less, are put in, and that at 1200
+        Clickbook half = new Clickbook();
+        half.hit(1199, 0);
+        half.hit(1200, 0);
+        half.hit(1200, 0);
+        Check.cue(half, 1199, 2, 100);
+        half.bar(0, 2, 24);
+        half.bar(0, 2, 24);
+        check.same("25: what 24 FRAMES at LENGTH / 2 would meet", half.wouldMeet(1200, 24), 3);
+        check.same("25: what 25 would", half.wouldMeet(1200, 25), 1);
+        check.same("25: what 23 would", half.wouldMeet(1200, 23), 1);
+        check.same("25: what 24 behind would", half.wouldMeet(1201, 24), 1);
+        check.same("25: what 24 ahead would", half.wouldMeet(1199, 24), 1);
+        check.same("25: a HIT at LENGTH / 2", half.digest(), digestOf(half));
     }
 }
