@@ -24,6 +24,7 @@ final class AskedEdges {
         sheetPays();
         manyRefuses();
         manyOfSession();
+        manyOfAll();
         meanNote();
     }
 
@@ -191,6 +192,20 @@ final class AskedEdges {
         run.of("18: the band and TIME are 0 without a SESSION", CUE_AT_100
             + "many 12 = 0; many 13 = 0; open 60; many 12 = 60; many 13 = 0; take 0 5 0; many 13 = 4; close = 240;"
             + "many 12 = 0; many 13 = 0; many 14 = 240");
+    }
+
+    private void manyOfAll() {
+        run.of("18: all at once", """
+            theme 300; theme 20; theme 2000
+            cue 100 0 5 0 0; bar 0 2 80; cue 110 2 5 1 1; bar 1 2 48; cue 2390 1 5 2 2; bar 2 7 24
+            cue 2395 -1 60 3 0 = ARGUMENT; cue 2395 -1 40 3 0; bar 3 2 24; cue 130 0 5 0 2; bar 4 2 96; cue 500 -1 5 1 1
+            hit 100 0; hit 110 0; hit 134 4; hit 154 0; hit 600 9; hit 1000 1; hit 1001 1; hit 1002 0
+            open 60; take 3 9 0; close = 240; change 600 -3; change 1500 8; change 1500 1; change 1500 1; change 1500 1
+            open 9; take 3 9 0 = STATE; take 0 5 0; take 1 5 0; take 4 5 0; take 4 6 1; take 2 7 0; retime 0 0 2 80
+            many 0 = 2408; many 1 = 5; many 2 = 8; many 3 = 1; many 4 = 4; many 5 = 3; many 6 = 6; many 7 = 2
+            many 8 = 3; many 9 = 4; many 10 = 6; many 11 = 5; many 12 = 9; many 13 = 20; many 14 = 240; many 15 = 13
+            close = 72; many 12 = 0; many 13 = 0; many 14 = 312; sheet 0 = 10; sheet 1 = 3; sheet 2 = 0; sheet 3 = 0
+            """);
     }
 
     private void meanNote() {

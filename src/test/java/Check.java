@@ -54,12 +54,12 @@ final class Check {
         sameText(what + " (state behind it)", stateOf(book), before);
     }
 
-    /** The machine's and the library's own exceptions come from deeper down than the class, or with a text of theirs. */
+    /** The library's own exceptions come from deeper down than the class; those of the machine have classes of theirs. */
     static boolean isOwnThrow(RuntimeException e) {
         StackTraceElement[] trace = e.getStackTrace();
-        String text = e.getMessage();
-        boolean fromClass = trace.length > 0 && trace[0].getClassName().startsWith("Clickbook");
-        return fromClass && text != null && !text.startsWith("Index ") && !text.startsWith("Cannot ");
+        Class<?> thrown = e.getClass();
+        boolean ofTheFace = thrown == INDEX || thrown == ARGUMENT || thrown == STATE;
+        return ofTheFace && trace.length > 0 && trace[0].getClassName().startsWith("Clickbook");
     }
 
     /** The call has to answer that, and to leave everything that can be asked as it was. */

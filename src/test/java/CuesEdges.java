@@ -257,6 +257,10 @@ final class CuesEdges {
         run.of("18: they CLASH, if they have a FRAME in common: all", two + "shift 1 100; many 9 = 1");
         run.of("18: a FRAME that is not full is one too", "cue 0 -1 1 0 0; bar 0 3 27; ofCue 0 8 = 21;"
             + "cue 20 -1 1 0 0; bar 1 2 24; many 9 = 1; shift 1 21; many 9 = 0");
+        run.of("18: they CLASH, though the FRAME that they have in common is not in the picture", """
+            cue 2390 -1 1 0 0; bar 0 2 40; cue 2400 -1 1 0 0; bar 1 2 40; ofCue 0 8 = 2410; many 9 = 1
+            change 2390 -10; ofCue 0 0 = 2390; ofCue 1 0 = 2390; many 0 = 2390; many 9 = 1
+            """);
         run.of("18: a CUE without BARS has no FRAME", two + "cue 110 -1 1 0 0; cue 110 -1 1 0 0; many 9 = 0");
         run.of("18: a CUE without BARS has no FRAME, though its number is the smaller one",
             "cue 110 -1 1 0 0; cue 100 -1 1 0 0; bar 1 2 40; many 9 = 0; bar 0 2 40; many 9 = 1");

@@ -1,6 +1,7 @@
 /** Long runs of calls, always the same ones, on the class and on the model: each answer and each exception. */
 final class ModelTest {
     private static final int RUNS = 250;
+    /** As many as the document promises anything for. */
     private static final int CALLS = 512;
 
     private static final Check check = new Check();
@@ -95,7 +96,7 @@ final class ModelTest {
     }
 
     private interface Asked<T> {
-        double of(T object);
+        Object of(T object);
     }
 
     private static <T> String answer(Asked<T> call, T object) {
@@ -222,9 +223,7 @@ final class ModelTest {
             int n = cutOf(at);
             both(text + "wouldMeet " + at + " " + n, b -> b.wouldMeet(at, n), m -> m.wouldMeet(at, n));
         } else {
-            // in two halves, for a double does not hold all of a long
-            both(text + "digest, upper half", b -> b.digest() >>> 32, m -> m.digest() >>> 32);
-            both(text + "digest, lower half", b -> b.digest() & 0xffffffffL, m -> m.digest() & 0xffffffffL);
+            both(text + "digest", Clickbook::digest, Model::digest);
         }
     }
 }

@@ -238,6 +238,10 @@ final class PictureEdges {
             hit 100 9; change 100 -1; ofHit 0 0 = 100; change 0 50; ofHit 0 0 = 100; change 100 -1; ofHit 0 0 = 100
             change 0 -90; ofHit 0 0 = 100; ofHit 0 2 = 1; many 3 = 1
             """);
+        run.of("4: one that is GONE is not a from then on, as a REVEAL or a START is", """
+            hit 105 9; theme 105; cue 105 0 1 0 0; change 100 -10; ofHit 0 2 = 1; ofHit 0 0 = 105; ofCue 0 0 = 100
+            ofCue 0 10 = 0; shift 0 99; ofCue 0 10 = 1
+            """);
     }
 
     private void touched(String title, int frame, int n, int due, int start) {
